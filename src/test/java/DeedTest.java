@@ -102,6 +102,10 @@ public final class DeedTest {
     x.mend(12, 3, 7);
     x.day(0);
     Due.is("wind 7 on a day by 3", x.of(0, 23), 0);
+    DustCart y = new DustCart();
+    y.mend(0, 3, 7);
+    y.day(0);
+    Due.is("wind 7 on day 0", y.of(0, 23), 0);
     x.mend(13, 2, 20);
     for (int day = 14; day < 60; day++) x.mend(day, 2, day < 30 ? 20 : 1);
     x.days(10);
@@ -291,8 +295,10 @@ public final class DeedTest {
     Due.is("the fifth stands", x.of(4, 0), 5);
     Due.is("the sixth is undone", x.of(5, 0), 0);
     Due.is("those of the first round stand", x.of(0, 0), 1);
-    for (int n = 39; n >= 0; n--) Due.is("redo", x.redo(), n);
+    for (int n = 39; n >= 0; n--) {
+      Due.is("redo", x.redo(), n);
+      Due.is("done again", x.of((44 - n) % 36, 0), 1 + (44 - n) % 9);
+    }
     Due.is("redo", x.redo(), -5);
-    Due.is("the last", x.of(8, 0), 1 + 44 % 9);
   }
 }

@@ -246,6 +246,8 @@ public final class PlainTest {
     }
     Due.is("law of 120 bytes", Due.law(x, "s+".repeat(59) + "12"), 1);
     Due.is("law that ends too early", Due.law(x, "s+".repeat(60)), -220);
+    Due.is("law of 120 signs", Due.law(x, "-" + "s+".repeat(59) + "s"), 1);
+    Due.is("order by 120 signs", x.order(), 58 * 50 % 6);
   }
 
   private static void lawIsKept() {
@@ -269,6 +271,7 @@ public final class PlainTest {
     Due.is("cost up from 0", x.cost(9, 4), 21);
     Due.is("cost up from 0", x.cost(2, 3), 21);
     Due.is("cost on the flat", x.cost(20, 2), 3);
+    Due.is("cost to the first cell", x.cost(1, 4) + x.cost(6, 1), 6);
     x.mend(0, 4, 1);
     Due.is("cost by one wheel", x.cost(14, 1), 18);
     Due.is("cost by one wheel", x.cost(8, 3), 8);
@@ -286,6 +289,9 @@ public final class PlainTest {
   }
 
   private static void order() {
+    DustCart first = new DustCart();
+    Due.law(first, "w");
+    Due.is("order by the wind of day 0", first.order(), 3);
     DustCart x = new DustCart();
     Due.is("order without a text", x.order(), 0);
     x.mend(0, 1, 1);
