@@ -45,8 +45,11 @@ public final class DustCart {
     int place = Plain.place(number, what);
     if (place < 0 || !Plain.mayBe(what, v)) return BAD;
     int was = plain.told(place);
-    plain.tell(place, v);
-    changes.note(place, was, v);
+    // what becomes what it was is no change: what was undone can still be done again
+    if (was != v) {
+      plain.tell(place, v);
+      changes.note(place, was, v);
+    }
     return was;
   }
 
@@ -75,7 +78,7 @@ public final class DustCart {
   }
 
   public int heights(int shelf, int i, int cn) {
-    if (!isShelf(shelf) || i < 0 || cn < 0) return BAD;
+    if (!isShelf(shelf) || cn < 0) return BAD;
     int cell = cn / 100;
     int n = cn % 100;
     if (!Plain.isCell(cell) || n < 1 || n > Plain.CELLS) return BAD;
@@ -84,11 +87,12 @@ public final class DustCart {
     return heightsFrom(shelves[shelf], i, cell, n);
   }
 
+  /** A place that the row does not have, also one below 0, is where it ends. */
   private int heightsFrom(Shelf shelf, int i, int cell, int n) {
     int came = 0;
     for (int k = 0; k < n; k++) {
       int place = Plain.place(cell + k, Plain.HIGH);
-      if (place < 0 || i >= shelf.length - k) break;
+      if (place < 0 || i < 0 || i >= shelf.length - k) break;
       int high = (int) shelf.at(i + k);
       if (!Plain.mayBe(Plain.HIGH, high)) break;
       plain.tell(place, high);

@@ -261,7 +261,9 @@ public final class DeedTest {
     Due.is("redo behind a change", x.redo(), -5);
     Due.is("count", x.count(3), 3);
     x.mend(4, 0, 1);
-    Due.is("a change to the same", x.count(3), 4);
+    Due.is("no change to the same", x.count(3), 3);
+    x.mend(4, 0, 2);
+    Due.is("count", x.count(3), 4);
     x.day(2);
     x.image();
     x.back();
@@ -287,7 +289,7 @@ public final class DeedTest {
   private static void fortyChanges() {
     DustCart x = new DustCart();
     for (int n = 0; n < 45; n++) {
-      x.mend(n % 36, 0, 1 + n % 9);
+      x.mend(n % 36, 0, 1 + n % 7); // the second round tells other heights: each is a change
       Due.is("changes kept", x.count(3), Math.min(40, n + 1));
     }
     for (int n = 39; n >= 0; n--) Due.is("undo", x.undo(), n);
@@ -297,8 +299,12 @@ public final class DeedTest {
     Due.is("those of the first round stand", x.of(0, 0), 1);
     for (int n = 39; n >= 0; n--) {
       Due.is("redo", x.redo(), n);
-      Due.is("done again", x.of((44 - n) % 36, 0), 1 + (44 - n) % 9);
+      Due.is("done again", x.of((44 - n) % 36, 0), 1 + (44 - n) % 7);
     }
     Due.is("redo", x.redo(), -5);
+    Due.is("mend to the same", x.mend(0, 0, x.of(0, 0)), 2);
+    Due.is("forty are kept", x.count(3), 40);
+    for (int n = 39; n >= 0; n--) Due.is("undo", x.undo(), n);
+    Due.is("none of the forty was dropped", x.of(5, 0), 0);
   }
 }

@@ -3,9 +3,11 @@ public final class PlainTest {
   public static void main(String[] args) {
     newObject();
     mend();
+    mendToTheSame();
     mendRefused();
     of();
     heights();
+    heightsWithoutAPlace();
     heightsRefused();
     feed();
     lawWorksOut();
@@ -60,6 +62,30 @@ public final class PlainTest {
     }
     Due.is("mend is no other's", x.mend(7, 0, 4), 0);
     Due.is("mend is no other's", x.of(7, 1) + x.of(7, 2) + x.of(7, 3) + x.of(6, 0) + x.of(8, 0), 0);
+  }
+
+  /** What becomes what it was is none of the changes: not kept, and what was undone can be done again. */
+  private static void mendToTheSame() {
+    int[] last = {35, 35, 59, 59, 0, 0};
+    int[] first = {0, 0, 8, 3, 6, 2};
+    int[] other = {9, 1, 0, 9, 1, 12};
+    DustCart x = new DustCart();
+    for (int what = 0; what <= 5; what++) {
+      Due.is("mend to the same", x.mend(last[what], what, first[what]), first[what]);
+      Due.is("mend to the same is no change", x.count(3), 0);
+      Due.is("no change to undo", x.undo(), -5);
+    }
+    for (int what = 0; what <= 5; what++) {
+      x.mend(last[what], what, other[what]);
+      x.mend(last[what], what, other[what]);
+      Due.is("one change", x.count(3), 1);
+      Due.is("undo", x.undo(), 0);
+      for (int same = 0; same <= 5; same++) x.mend(0, same, first[same]);
+      Due.is("redo behind no change", x.redo(), 0);
+      Due.is("done again", x.of(last[what], what), other[what]);
+      x.undo();
+      Due.is("undone", x.of(last[what], what), first[what]);
+    }
   }
 
   private static void mendRefused() {
@@ -141,6 +167,32 @@ public final class PlainTest {
     Due.is("heights all but one", x.heights(0, 25, 36), 35);
   }
 
+  /** A place that the row does not have is no BAD one: none came. */
+  private static void heightsWithoutAPlace() {
+    DustCart x = new DustCart();
+    for (int i : new int[] {Integer.MIN_VALUE, -36, -1, 0, 1, Integer.MAX_VALUE}) {
+      Due.is("heights from a bare shelf", x.heights(0, i, 1), 0);
+    }
+    Due.bytes(x, 0, 5, 6, 7);
+    x.body(0);
+    x.row(1, 1, 3);
+    x.keep(2, 0);
+    x.row(3, 0, 0);
+    for (int i : new int[] {Integer.MIN_VALUE, -36, -2, -1, 3, 4, Integer.MAX_VALUE - 1, Integer.MAX_VALUE}) {
+      Due.is("heights from no place", x.heights(0, i, 36), 0);
+      Due.is("heights from a row of none", x.heights(3, i, 36), 0);
+      Due.is("heights from no place of shorts", x.heights(1, i, 36), -12);
+      Due.is("heights from no place of a body", x.heights(2, i, 36), -12);
+      Due.is("heights bad from no place", x.heights(0, i, 0), -1);
+      Due.is("heights bad from no place", x.heights(0, i, 3601), -1);
+      Due.is("heights bad from no place", x.heights(6, i, 1), -1);
+    }
+    for (int cell = 0; cell < 36; cell++) Due.is("none came", x.of(cell, 0), 0);
+    Due.is("heights from the last place", x.heights(0, 2, 36), 1);
+    Due.is("heights from the first place", x.heights(0, 0, 136), 3);
+    Due.is("came", x.of(0, 0) * 1000 + x.of(1, 0) * 100 + x.of(2, 0) * 10 + x.of(3, 0), 7567);
+  }
+
   private static void heightsRefused() {
     DustCart x = new DustCart();
     x.row(0, 0, 60);
@@ -154,7 +206,6 @@ public final class PlainTest {
     Due.is("heights n", x.heights(0, 0, 100), -1);
     Due.is("heights cell", x.heights(0, 0, 3601), -1);
     Due.is("heights below 0", x.heights(0, 0, -1), -1);
-    Due.is("heights place", x.heights(0, -1, 1), -1);
     Due.is("heights shorts", x.heights(1, 0, 1), -12);
     Due.is("heights body", x.heights(2, 0, 1), -12);
     Due.is("heights n ahead of shorts", x.heights(1, 0, 37), -1);

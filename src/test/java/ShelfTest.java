@@ -210,9 +210,10 @@ public final class ShelfTest {
     Due.is("hollows", x.count(1), 2);
     x.mend(14, 0, 1);
     Due.is("hollows", x.count(1), 2);
-    Due.is("changes", x.count(3), 4 + 7 + 2);
+    // three of stones, five of heights told, and two more; what stays the same is no change
+    Due.is("changes", x.count(3), 3 + 5 + 2);
     x.undo();
-    Due.is("changes", x.count(3), 12);
+    Due.is("changes", x.count(3), 9);
     x.feed('s');
     Due.is("tape", x.count(2), 1);
     x.law();
