@@ -1,3 +1,6 @@
+import java.util.ArrayList;
+import java.util.List;
+
 /** Promises 27 to 29: bodies, acts and their trace. */
 public final class ActTest {
   private static final int TURNS = 0, MOVES = 1, LOOKS = 2, TELLS = 3;
@@ -75,13 +78,15 @@ public final class ActTest {
     for (int n = 0; n < 50; n++) {
       int kind = n * 5 % 8;
       x.body(kind);
-      Wheel w = wheel(kind);
-      w.n = n;
-      for (int v : xs) {
-        Due.is("turns", x.act(n, TURNS, v), w.turns(v));
-        Due.is("moves", x.act(n, MOVES, v), w.moves(v));
-        Due.is("looks", x.act(n, LOOKS, v), w.looks(v));
-        Due.is("tells", x.act(n, TELLS, v), w.tells(v));
+      List<Integer> trace = new ArrayList<>();
+      WheelModel.Wheel wheel = WheelModel.of(kind, n, trace);
+      for (int act = TURNS; act <= TELLS; act++) {
+        for (int v : xs) {
+          trace.clear();
+          Due.is("act " + act + " of kind " + kind, x.act(n, act, v), WheelModel.act(wheel, act, v));
+          Due.is("how many ran", x.count(5), trace.size());
+          for (int i = 0; i < trace.size(); i++) Due.is("trace of kind " + kind, x.trace(i), trace.get(i));
+        }
       }
     }
   }
@@ -102,67 +107,5 @@ public final class ActTest {
     Due.is("act of no body", x.act(-1, TURNS, 5), 0);
     Due.is("act of no body", x.act(50, TURNS, 5), 0);
     Due.is("act of no body", x.act(Integer.MIN_VALUE, TURNS, 5), 0);
-  }
-
-  private static Wheel wheel(int kind) {
-    switch (kind) {
-      case 1: return new Dragged();
-      case 2: return new Dusty();
-      case 3: return new Clean();
-      case 4: return new Stuck();
-      case 5: return new Sleeping();
-      case 6: return new North();
-      case 7: return new Given();
-      default: return new Wheel();
-    }
-  }
-
-  interface Turns {
-    int number();
-    default int turns(int x) { return x + number(); }
-  }
-
-  interface Tells {
-    int moves(int x);
-    int looks(int x);
-    default int tells(int x) { return moves(x) - looks(1); }
-  }
-
-  static class Wheel implements Turns, Tells {
-    int n;
-    public int number() { return n; }
-    public int moves(int x) { return turns(x) * 2; }
-    public int looks(int x) { return x ^ n; }
-  }
-
-  static class Dragged extends Wheel {
-    public int turns(int x) { return super.turns(x) + 3; }
-  }
-
-  static class Dusty extends Wheel {
-    public int moves(int x) { return -super.moves(x); }
-  }
-
-  static class Clean extends Dusty {
-    public int looks(int x) { return super.looks(x) * 3; }
-    public int moves(int x) { return super.moves(x + 1); }
-  }
-
-  static class Stuck extends Dragged {
-    public int tells(int x) { return super.tells(x) ^ 5; }
-  }
-
-  static class Sleeping extends Clean {
-    public int looks(int x) { return super.looks(x) - turns(2); }
-    public int tells(int x) { return super.tells(x) + 1; }
-  }
-
-  static class North extends Wheel {
-    public int turns(int x) { return super.turns(x) * 2; }
-  }
-
-  static class Given extends North {
-    public int moves(int x) { return super.moves(x) + looks(2); }
-    public int turns(int x) { return super.turns(x) - 1; }
   }
 }
